@@ -874,7 +874,7 @@ public final class RodRings {
     private static final class Law {
         static final int MOST_LINES = 12;
         /** Codes are those of the tape's words; a number is its own value and this. */
-        private static final int FIRST_NUMBER = 256;
+        static final int FIRST_NUMBER = 256;
         private static final int GAP_OF_LAST = 99;
         private static final int UNTOLD_CATCHES = 10;
         /** A condition in at most 6 brackets holds two values at each level, and a comparison three more. */
@@ -915,17 +915,13 @@ public final class RodRings {
             }
         }
 
-        /** Puts a word or a sign behind the condition of the latest line. */
+        /** Puts a word, a sign or a number behind the condition of the latest line. */
         void addCode(int code) {
             if (size < TAPE_BYTES && lines > 0) {
                 codes[size] = code;
                 size++;
                 stops[lines - 1] = size;
             }
-        }
-
-        void addNumber(int number) {
-            addCode(FIRST_NUMBER + number);
         }
 
         int amount(int kind, Rod rod, int ring) {
@@ -1260,7 +1256,7 @@ public final class RodRings {
                     if (number == NONE) {
                         return false;
                     }
-                    draft.addNumber(number);
+                    draft.addCode(Law.FIRST_NUMBER + number);
                 }
                 if (behindPlus) {
                     draft.addCode('+');

@@ -53,6 +53,11 @@ public final class ActsTest {
         Check.same("the only one", x.ring(0, 12), 3);
         x.hook(3, false);
         Check.same("none", x.ring(0, 12), -1);
+        RodRings far = Check.made("ring at 0 cloth 9;ring at 9 cloth 9;ring at 18 cloth 9;ring at 27 cloth 9;ring at 31 cloth 9");
+        for (int i = 0; i < 4; i++) {
+            far.hook(i, false);
+        }
+        Check.same("at the other end", far.ring(0, 12), 4);
     }
 
     private static void pushing() {

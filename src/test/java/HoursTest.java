@@ -13,6 +13,7 @@ public final class HoursTest {
         pale();
         odds();
         trialsAndSpans();
+        spanOfSixSeeds();
         wrongNumbers();
         Check.done("HoursTest");
     }
@@ -102,6 +103,12 @@ public final class HoursTest {
         RodRings z = Check.made("ring at 0 cloth 9");
         Check.law(z, "fall " + (first + 1));
         Check.same("below", z.hours(1), 1);
+        RodRings near = Check.made("ring at 0 cloth 9;ring at 1 cloth 9");
+        Check.law(near, "catch " + first);
+        Check.same("not below", near.hours(1), 0);
+        near.seed(1);
+        Check.law(near, "catch " + (first + 1));
+        Check.same("below", near.hours(1), 1);
         int second = drawn(nextSeed(nextSeed(1)));
         RodRings w = Check.made("ring at 0 cloth 9;ring at 1 cloth 9");
         Check.law(w, "catch 0;fall " + (second + 1) + " if ring < 1");
@@ -200,6 +207,23 @@ public final class HoursTest {
         Check.same("0 hours", x.span(0, true), 2);
         Check.same("bare pole", new RodRings().span(80, true), 0);
         Check.same("bare pole", new RodRings().trial(80, true), 0);
+    }
+
+    /** One ring falls in its one hour just if its draw is below: so each of the six seeds tells. */
+    private static void spanOfSixSeeds() {
+        RodRings x = Check.made("ring at 0 cloth 9");
+        for (int bound = 0; bound <= 100; bound++) {
+            Check.law(x, "fall " + bound);
+            int least = 1;
+            int greatest = 0;
+            for (int seed = 1; seed <= 6; seed++) {
+                int falls = drawn(nextSeed(seed)) < bound ? 1 : 0;
+                least = Math.min(least, falls);
+                greatest = Math.max(greatest, falls);
+            }
+            Check.same("least below " + bound, x.span(1, false), least);
+            Check.same("greatest below " + bound, x.span(1, true), greatest);
+        }
     }
 
     private static void wrongNumbers() {

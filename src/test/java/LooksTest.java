@@ -53,6 +53,8 @@ public final class LooksTest {
         Check.same("5", x.tight(5), 0);
         Check.same("6", x.tight(6), -1);
         Check.same("8", x.tight(8), -1);
+        Check.same("all 32 places", Check.made("ring at 0 cloth 9;ring at 9 cloth 9;ring at 18 cloth 9;ring at 27 cloth 9;"
+                + "ring at 31 cloth 9").tight(5), 0);
         Check.failsArgument("1", () -> x.tight(1));
         Check.failsArgument("9", () -> x.tight(9));
     }

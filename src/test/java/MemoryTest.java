@@ -11,6 +11,7 @@ public final class MemoryTest {
         logIsFull();
         undoEach();
         undoAll();
+        fullLogComesBack();
         undoForgets();
         image();
         Check.done("MemoryTest");
@@ -172,6 +173,29 @@ public final class MemoryTest {
         Check.same("one again", x.count(10), 1);
         Check.yes("undone", x.undo());
         Check.yes("as before", before[8].equals(told(x)));
+    }
+
+    private static void fullLogComesBack() {
+        RodRings x = Check.made(THREE);
+        for (int i = 0; i < 70; i++) {
+            x.pull(i % 3, i % 5 < 3, 1 + i % 7);
+        }
+        x.image();
+        String kept = told(x);
+        String[] before = new String[12];
+        for (int i = 0; i < 12; i++) {
+            before[i] = told(x);
+            x.pull((i + 1) % 3, i % 2 == 0, 1 + i);
+        }
+        for (int i = 11; i >= 0; i--) {
+            x.undo();
+            Check.yes("the rows that were pushed out are there again", before[i].equals(told(x)));
+        }
+        for (int i = 0; i < 65; i++) {
+            x.pull(2, i % 2 == 0, 3);
+        }
+        Check.yes("back", x.back());
+        Check.yes("all rows of the image", kept.equals(told(x)));
     }
 
     private static void undoForgets() {

@@ -14,9 +14,12 @@ public final class RandomRunsTest {
     private final RodRings real = new RodRings();
     private final Model model = new Model();
     private final List<String> told = new ArrayList<>();
+    private final int mostActs;
 
     private RandomRunsTest(long seed) {
         random = new Random(seed);
+        // Some runs act most of the time, so that the log and what is remembered come round.
+        mostActs = 20 + random.nextInt(70);
     }
 
     public static void main(String[] args) throws ReflectiveOperationException {
@@ -58,7 +61,7 @@ public final class RandomRunsTest {
                 same = call("undo");
             } else if (dice == 13) {
                 same = call(random.nextBoolean() ? "image" : "back");
-            } else if (dice < 40) {
+            } else if (dice < mostActs) {
                 String[] acts = {"pull", "pull", "pull", "free", "snag", "hook", "sew", "let", "chair", "hours"};
                 same = any(method(acts[random.nextInt(acts.length)]));
             } else {
@@ -290,7 +293,7 @@ public final class RandomRunsTest {
             case 2:
                 return text.substring(0, at) + (char) random.nextInt(256) + text.substring(at + 1);
             case 3:
-                return text.substring(0, at) + text.charAt(at) + text.substring(at, Math.min(398, text.length()));
+                return text.substring(0, at) + text.charAt(at) + text.substring(at);
             default:
                 return text.replaceFirst(pick(" ", "[0-9]", "or", "and", "[(]"), pick("", " ", "7", "not ", "((("));
         }

@@ -42,6 +42,9 @@ public final class ShadeTest {
         Check.same("lost", x.would(0, true, 5, false), 1);
         Check.same("more than can be", x.would(1, true, 31, true), 27 + 20);
         Check.same("nothing stays", x.ring(1, 0), 4);
+        x.pull(1, true, 2);
+        Check.same("only what this one makes", x.would(1, true, 3, true), 3);
+        x.undo();
         Check.failsArgument("0", () -> x.would(1, true, 0, false));
         Check.failsArgument("32", () -> x.would(1, true, 32, false));
         Check.failsIndex("no ring", () -> x.would(2, true, 0, false));
@@ -112,6 +115,16 @@ public final class ShadeTest {
         Check.same("in place of those that are", x.snags(false), 2);
         Check.same("nothing stays", x.caught(), 1);
         Check.same("nothing stays", x.ring(1, 0), 2);
+        Check.feed(x, 0, 1, 31, 27);
+        Check.same("ring 1 alone", x.snags(false), 1);
+        RodRings even = Check.made("ring at 0 cloth 9;ring at 2 cloth 9;ring at 4 cloth 9");
+        Check.feed(even, 0, 1, 31, 28);
+        Check.same("one of two", even.snags(false), 2);
+        Check.feed(even, 0, 1, 31, 28);
+        Check.same("neither for sure", even.snags(true), 0);
+        RodRings one = Check.made("ring at 0 cloth 9");
+        Check.feed(one, 0, 1, 31, 31);
+        Check.same("31 steps", one.snags(false), 1);
         RodRings bare = new RodRings();
         Check.feed(bare);
         Check.same("bare pole: the empty set", bare.snags(false), 1);

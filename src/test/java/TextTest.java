@@ -315,6 +315,10 @@ public final class TextTest {
         Check.failsArgument("wrong", x::law);
         Check.same("lines", x.count(2), 2);
         Check.same("stays", x.ring(0, 9), 7);
+        for (int i = 0; i < 9; i++) {
+            Check.same("long ones", Check.law(x, "fade 5 if " + "1<2 and ".repeat(40) + "ring < " + i), 1);
+            Check.same("one behind another", x.ring(1, 9), i > 1 ? 5 : 0);
+        }
         Check.same("empty", Check.law(x, "  "), 0);
         Check.same("no line", x.count(2), 0);
         Check.same("nothing fades", x.ring(0, 9), 0);

@@ -5,6 +5,16 @@ final class Check {
         void run();
     }
 
+    /** A call with one number on an object. */
+    interface NumberCall {
+        void run(RodRings x, int n);
+    }
+
+    /** Makes a new object. */
+    interface Maker {
+        RodRings make();
+    }
+
     private static int wrong;
     private static int asked;
 
@@ -89,6 +99,70 @@ final class Check {
         RodRings x = new RodRings();
         pole(x, text);
         return x;
+    }
+
+    /** Rings at these places, each with as much cloth as can be. */
+    static String rings(int... places) {
+        StringBuilder text = new StringBuilder();
+        for (int place : places) {
+            text.append(text.length() == 0 ? "" : ";").append("ring at ").append(place).append(" cloth 9");
+        }
+        return text.toString();
+    }
+
+    /** All that can be told of an object, but for the tape and the image. */
+    static String told(RodRings x) {
+        return hanging(x) + ' ' + x.count(10) + ' ' + x.fault();
+    }
+
+    /** All that undoing and going back bring back. */
+    static String hanging(RodRings x) {
+        StringBuilder b = new StringBuilder();
+        for (int what = 0; what < 10; what++) {
+            b.append(x.count(what)).append(' ');
+        }
+        for (int ring = 0; ring < x.count(0); ring++) {
+            for (int what = 0; what < 14; what++) {
+                b.append(x.ring(ring, what)).append(' ');
+            }
+        }
+        for (int ago = 0; ago < x.count(9); ago++) {
+            for (int what = 0; what < 6; what++) {
+                b.append(x.log(ago, what)).append(' ');
+            }
+        }
+        int seed = x.seed(0);
+        x.seed(seed);
+        return b.append(seed).toString();
+    }
+
+    /** The call throws this and changes nothing, nor the tape. */
+    static void refused(String what, Class<? extends RuntimeException> due, RodRings x, Call call) {
+        x.end(0);
+        x.feed(1, 2, 3, 4, 5);
+        String before = told(x);
+        fails(what, due, call);
+        yes(what + ": nothing changed", before.equals(told(x)));
+        same(what + ": the tape stays", x.feed(1, 2, 3, 4, 5), 40);
+        x.end(0);
+    }
+
+    /** The numbers from least to most are taken; those just outside, and those far outside, are refused. */
+    static void bounds(String what, Maker maker, int least, int most, Class<? extends RuntimeException> due,
+            NumberCall call) {
+        for (int n : new int[] {least, most}) {
+            String got = "nothing";
+            try {
+                call.run(maker.make(), n);
+            } catch (RuntimeException e) {
+                got = e.getClass().getSimpleName();
+            }
+            yes(what + " of " + n + " threw " + got, got.equals("nothing"));
+        }
+        for (int n : new int[] {least - 1, most + 1, Integer.MIN_VALUE, Integer.MAX_VALUE}) {
+            RodRings x = maker.make();
+            refused(what + " of " + n, due, x, () -> call.run(x, n));
+        }
     }
 
     static void done(String name) {

@@ -77,27 +77,6 @@ public final class MemoryTest {
         Check.same("as ahead of it", x.log(59, 2), 0);
     }
 
-    /** All that can be told of an object. */
-    private static String told(RodRings x) {
-        StringBuilder b = new StringBuilder();
-        for (int what = 0; what < 10; what++) {
-            b.append(x.count(what)).append(' ');
-        }
-        for (int ring = 0; ring < x.count(0); ring++) {
-            for (int what = 0; what < 14; what++) {
-                b.append(x.ring(ring, what)).append(' ');
-            }
-        }
-        for (int ago = 0; ago < 60; ago++) {
-            for (int what = 0; what < 6; what++) {
-                b.append(x.log(ago, what)).append(' ');
-            }
-        }
-        int seed = x.seed(0);
-        x.seed(seed);
-        return b.append(seed).toString();
-    }
-
     private static void act(RodRings x, int which) {
         switch (which) {
             case 0:
@@ -141,12 +120,12 @@ public final class MemoryTest {
             RodRings x = Check.made(THREE + ";caught 1");
             x.pull(2, true, 1);
             x.seed(77);
-            String before = told(x);
+            String before = Check.hanging(x);
             act(x, which);
             Check.same("an act is remembered", x.count(10), 2);
             x.seed(3);
             Check.yes("undone", x.undo());
-            Check.yes("as ahead of act " + which, before.equals(told(x)));
+            Check.yes("as ahead of act " + which, before.equals(Check.hanging(x)));
             Check.same("one is left", x.count(10), 1);
         }
     }
@@ -155,7 +134,7 @@ public final class MemoryTest {
         RodRings x = Check.made(THREE);
         String[] before = new String[20];
         for (int i = 0; i < 20; i++) {
-            before[i] = told(x);
+            before[i] = Check.hanging(x);
             if (i % 3 == 0) {
                 x.hours(1 + i);
             } else {
@@ -165,14 +144,14 @@ public final class MemoryTest {
         }
         for (int i = 19; i >= 8; i--) {
             Check.yes("undone", x.undo());
-            Check.yes("as ahead of " + i, before[i].equals(told(x)));
+            Check.yes("as ahead of " + i, before[i].equals(Check.hanging(x)));
         }
         Check.no("no more", x.undo());
-        Check.yes("nothing happened", before[8].equals(told(x)));
+        Check.yes("nothing happened", before[8].equals(Check.hanging(x)));
         x.hook(0, false);
         Check.same("one again", x.count(10), 1);
         Check.yes("undone", x.undo());
-        Check.yes("as before", before[8].equals(told(x)));
+        Check.yes("as before", before[8].equals(Check.hanging(x)));
     }
 
     private static void fullLogComesBack() {
@@ -181,21 +160,21 @@ public final class MemoryTest {
             x.pull(i % 3, i % 5 < 3, 1 + i % 7);
         }
         x.image();
-        String kept = told(x);
+        String kept = Check.hanging(x);
         String[] before = new String[12];
         for (int i = 0; i < 12; i++) {
-            before[i] = told(x);
+            before[i] = Check.hanging(x);
             x.pull((i + 1) % 3, i % 2 == 0, 1 + i);
         }
         for (int i = 11; i >= 0; i--) {
             x.undo();
-            Check.yes("the rows that were pushed out are there again", before[i].equals(told(x)));
+            Check.yes("the rows that were pushed out are there again", before[i].equals(Check.hanging(x)));
         }
         for (int i = 0; i < 65; i++) {
             x.pull(2, i % 2 == 0, 3);
         }
         Check.yes("back", x.back());
-        Check.yes("all rows of the image", kept.equals(told(x)));
+        Check.yes("all rows of the image", kept.equals(Check.hanging(x)));
     }
 
     private static void undoForgets() {
@@ -235,7 +214,7 @@ public final class MemoryTest {
         Check.law(x, "fade 2;catch 50");
         x.hours(3);
         x.pull(2, true, 2);
-        String first = told(x);
+        String first = Check.hanging(x);
         x.image();
         Check.law(x, "fade 3");
         Check.pole(x, "ring at 8 cloth 1;day 7;join 4;wide 3;hour 2;chair 8");
@@ -243,19 +222,19 @@ public final class MemoryTest {
         x.seed(12);
         x.feed(1, 2, 3, 4, 5);
         Check.yes("back", x.back());
-        Check.yes("as it was", first.equals(told(x)));
+        Check.yes("as it was", first.equals(Check.hanging(x)));
         Check.yes("the tape stays", x.end(20));
         x.hours(20);
         x.undo();
         x.hook(0, false);
         Check.yes("back again", x.back());
-        Check.yes("as it was", first.equals(told(x)));
+        Check.yes("as it was", first.equals(Check.hanging(x)));
         x.sew(10, 1);
-        String second = told(x);
+        String second = Check.hanging(x);
         x.image();
         Check.yes("undone", x.undo());
         Check.yes("the image stays", x.back());
-        Check.yes("the second", second.equals(told(x)));
+        Check.yes("the second", second.equals(Check.hanging(x)));
         RodRings y = new RodRings();
         y.image();
         Check.law(y, "fade 1");

@@ -25,6 +25,8 @@ public final class AnswerEdgesTest {
         sure();
         tries();
         triesOfEight();
+        triesOfLaterRings();
+        triesOfThoseThatFit();
         loosen();
         order();
         tight();
@@ -300,20 +302,97 @@ public final class AnswerEdgesTest {
     }
 
     private static int greatestPart(RodRings x, int way) {
+        return greatestPart(Check.rings(0, 2, 4, 6, 8, 10, 12, 14), x.count(0), way);
+    }
+
+    /** Tries each set with snag and goes, and keeps those that fit the rows. */
+    private static int greatestPart(String text, int rings, int way, int... rows) {
         int[] parts = new int[32];
         int greatest = 0;
-        for (int set = 0; set < 128; set++) {
-            RodRings y = Check.made(Check.rings(0, 2, 4, 6, 8, 10, 12, 14));
-            for (int i = 0; i < 7; i++) {
+        for (int set = 0; set < 1 << rings - 1; set++) {
+            RodRings y = Check.made(text);
+            for (int i = 0; i < rings - 1; i++) {
                 if ((set >> i & 1) == 1) {
                     y.snag(i);
                 }
             }
-            int far = y.goes(way / 2, way % 2 == 1);
-            parts[far]++;
-            greatest = Math.max(greatest, parts[far]);
+            boolean fits = true;
+            for (int at = 0; at < rows.length; at += 4) {
+                fits &= Math.min(rows[at + 2], y.goes(rows[at], rows[at + 1] == 1)) == rows[at + 3];
+            }
+            if (fits) {
+                int far = y.goes(way / 2, way % 2 == 1);
+                parts[far]++;
+                greatest = Math.max(greatest, parts[far]);
+            }
         }
         return greatest;
+    }
+
+    /** TRY: the RING and the side by whose PULL by 31: each ring and each side may be the one. */
+    private static void triesOfLaterRings() {
+        // A thick ring in the corner of place 0 and a join at 1 goes to no side, caught or not.
+        String stuck = "ring at 0 cloth 9 thick;join 1;";
+        Check.same("ring 1 to the left: 3, or not if ring 0 has caught", tries(Check.made(stuck + "ring at 4 cloth 9")), 2);
+        Check.same("ring 1 to the right: 8, or not", tries(Check.made(stuck + "ring at 1 cloth 9")), 3);
+        int[] found = new int[6];
+        String[] ends = {"", " thick"};
+        for (int first = 0; first < 3; first++) {
+            for (int gaps = 0; gaps < 27; gaps++) {
+                int second = first + 1 + gaps % 3 * 4;
+                int third = second + 1 + gaps / 3 % 3 * 4;
+                for (int thick = 0; thick < 8; thick++) {
+                    String text = "join " + (1 + gaps / 9 * 4) + ";ring at " + first + " cloth 9" + ends[thick & 1] + ";ring at "
+                            + second + " cloth 9" + ends[thick >> 1 & 1] + ";ring at " + third + " cloth 9" + ends[thick >> 2];
+                    int due = greatestFirst(text, 3);
+                    found[due]++;
+                    Check.same("try of " + text, tries(Check.made(text)), due);
+                }
+            }
+        }
+        for (int way = 0; way < 6; way++) {
+            Check.yes("some pole tells of way " + way, found[way] > 0);
+        }
+    }
+
+    /** The first way whose greatest part is the least. */
+    private static int greatestFirst(String text, int rings, int... rows) {
+        int best = -1;
+        int least = 129;
+        for (int way = 0; way < 2 * rings; way++) {
+            int greatest = greatestPart(text, rings, way, rows);
+            if (greatest < least) {
+                least = greatest;
+                best = way;
+            }
+        }
+        return best;
+    }
+
+    /** TRY: those that fit are parted; the others count for nothing. */
+    private static void triesOfThoseThatFit() {
+        String[] poles = {Check.rings(1, 3, 6, 10, 15), Check.rings(0, 1, 2, 3, 4), Check.rings(12, 15, 16, 24, 30),
+            "ring at 0 cloth 5 thick;ring at 2 cloth 3;ring at 5 cloth 9 thick;ring at 9 cloth 2;ring at 10 cloth 1;join 7"};
+        int[] found = new int[11];
+        for (int round = 0; round < 160 * poles.length; round++) {
+            String text = poles[round / 160];
+            int told = round / 16 % 10;
+            int[] rows = {told / 2, told % 2, 1 + round % 31, 0};
+            RodRings hung = Check.made(text);
+            for (int i = 0; i < 4; i++) {
+                if ((round >> i & 1) == 1) {
+                    hung.snag(i);
+                }
+            }
+            rows[3] = Math.min(rows[2], hung.goes(rows[0], rows[1] == 1));
+            RodRings x = Check.made(text);
+            int due = snags(x, false, rows) < 2 ? -1 : greatestFirst(text, 5, rows);
+            found[due + 1]++;
+            Check.same("try of " + text + " told " + java.util.Arrays.toString(rows), tries(x, rows), due);
+        }
+        Check.yes("some are known already", found[0] > 0);
+        Check.yes("some tell of ring 0", found[1] > 0 && found[2] > 0);
+        Check.yes("some tell of the last one", found[9] > 0 || found[10] > 0);
     }
 
     /** FREE: of sets of CAUGHT RINGS the fewest: of several the least as bits; none. */
